@@ -322,7 +322,21 @@ public final class PromiseTest {
         }
         due("8: refused changes nothing", x.depth(), 2);
         due("8: refused changes nothing", x.holds(), 9);
+        theTwentiethByTwo();
         tooFewComesBeforeFull();
+    }
+
+    private static void theTwentiethByTwo() {
+        FairRuns x = new FairRuns();
+        x.mark(0, 6);
+        x.push(0);
+        x.push(0);
+        for (int i = 0; i < 17; i++) {
+            x.one(0);
+        }
+        due("8: the twentieth", x.two(1), 1);
+        due("8: the twentieth", x.holds(), 255);
+        due("8: the twenty-first", x.push(0), FULL);
     }
 
     private static void tooFewComesBeforeFull() {
@@ -477,6 +491,24 @@ public final class PromiseTest {
         x.undemand();
         x.demand(3);
         due("11: the third not met", x.fair(), 0);
+        demandsOutsideTheFormula();
+    }
+
+    private static void demandsOutsideTheFormula() {
+        // 0 -> 0, 1; 1 -> 2; 2 -> 2, 3; 3 -> 0: from 0 to 2 and back only by 1 and 3.
+        FairRuns x = new FairRuns();
+        x.arcs(0, 3);
+        x.arcs(1, 4);
+        x.arcs(2, 12);
+        x.arcs(3, 1);
+        x.mark(0, 5);
+        x.push(0);
+        x.one(3);
+        x.demand(1);
+        due("11: some-always meets one demand", x.holds(), 1);
+        x.demand(4);
+        due("11: both demands are met", x.fair(), 15);
+        due("11: but not without leaving F", x.holds(), 0);
     }
 
     private static void until() {

@@ -48,7 +48,6 @@ public final class PromiseTest {
         steps();
         knots();
         longUse();
-        readme();
         System.out.println(wrong == 0 ? "all answers are as due" : wrong + " answers are not as due");
         if (wrong != 0) {
             System.exit(1);
@@ -756,17 +755,5 @@ public final class PromiseTest {
             due("long use: demand", x.demand(i), i < 3 ? i + 1 : FULL);
         }
         due("long use: undemand", x.undemand(), 2);
-    }
-
-    private static void readme() {
-        FairRuns x = new FairRuns();
-        x.arcs(0, 3);
-        x.arcs(1, 1);
-        x.mark(0, 2);
-        x.push(0);
-        x.one(5);
-        due("README: holds", x.holds(), 254);
-        x.demand(2);
-        due("README: holds", x.holds(), 255);
     }
 }
